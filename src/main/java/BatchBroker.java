@@ -35,28 +35,25 @@ public final class BatchBroker {
     private final int logCount;
     private final byte[] tape = new byte[TAPE_LIMIT];
     private int tapeSize;
-    private final Draft draft;
-    private final Examiner examiner;
+    private final Draft draft = new Draft();
+    private final Examiner examiner = new Examiner();
+    private final Fetched fetched = new Fetched();
     private final Disk disk;
-    private final Logs logs;
     private final byte[] numberRow = new byte[8];
     private long nextNumber;
     private long reservedNumbers;
+    private final Logs logs;
     private final Compactor compactor;
-    private final Fetched fetched;
     private final Groups groups;
 
     public BatchBroker(int logs, int segment, int blocks) {
-        int allBlocks = Math.max(32, Math.min(blocks, 256));
-        Disk madeDisk = new Disk(allBlocks);
-        logCount = Math.max(1, Math.min(logs, 8));
-        Logs madeLogs = new Logs(madeDisk, logCount, Math.max(1, Math.min(segment, 16)));
+        int forProducers = Math.max(1, Math.min(logs, 8));
+        Disk madeDisk = new Disk(Math.max(32, Math.min(blocks, 256)));
+        Logs madeLogs = new Logs(madeDisk, forProducers, Math.max(1, Math.min(segment, 16)));
+        logCount = forProducers;
         disk = madeDisk;
         this.logs = madeLogs;
-        draft = new Draft();
-        examiner = new Examiner();
         compactor = new Compactor(madeLogs);
-        fetched = new Fetched();
         groups = new Groups(madeLogs);
     }
 
@@ -256,9 +253,9 @@ public final class BatchBroker {
             throws IllegalArgumentException, IllegalStateException {
         needArguments(isOfEight(group) && isOfEight(member) && isForProducers(log));
         needPower();
-        int refusal = groups.refusal(group, member, generation);
-        if (refusal != 0) {
-            return refusal;
+        int refused = groups.refusal(group, member, generation);
+        if (refused != 0) {
+            return refused;
         }
         return groups.commitOffset(group, member, log, offset);
     }
@@ -857,7 +854,7 @@ public final class BatchBroker {
             return answer == NONE ? append(table, batch, size) : answer;
         }
 
-        /** NONE if nothing that the log knows of the producer keeps the batch from being appended. */
+        /** NONE if what the log knows of the producer does not keep the batch from being appended. */
         private long answerAsKnown(LogTable table, byte[] batch) {
             long producer = Batch.producerOf(batch, 0);
             int latest = knownAt(table, producer, 0);
@@ -959,10 +956,10 @@ public final class BatchBroker {
 
         /** The foremost blocks that no segment uses, used from now on (until the uses are counted anew). */
         int takeSegment() {
-            int row = 0;
+            int inRow = 0;
             for (int b = firstBlock; b < uses.length; b++) {
-                row = uses[b] == 0 ? row + 1 : 0;
-                if (row == segmentBlocks) {
+                inRow = uses[b] == 0 ? inRow + 1 : 0;
+                if (inRow == segmentBlocks) {
                     int first = b - segmentBlocks + 1;
                     markSegment(first);
                     return first;
@@ -1037,22 +1034,31 @@ public final class BatchBroker {
 
         private long greatestOffset(int place) {
             int count = Batch.countOf(disk.row, place);
+            int last = Batch.lastOf(disk.row, place);
+            boolean isTold = count == 0 || count == last + 1;
+            return Batch.baseOf(disk.row, place) + (isTold ? last : lastOffsetLeft(place, count));
+        }
+
+        /** Compaction may have taken a batch's last record, while LAST stays. */
+        private long lastOffsetLeft(int place, int count) {
             int limit = place + Batch.sizeOf(disk.row, place);
-            long after = Batch.lastOf(disk.row, place);
+            long after = 0;
             int at = place + HEAD;
             for (int k = 0; k < count && view.read(disk.row, at, limit); k++) {
                 after = view.offsetAfter;
                 at = view.end;
             }
-            return Batch.baseOf(disk.row, place) + after;
+            return after;
         }
 
         /** The least offset of a record with such a time or a greater one. */
         long firstSince(LogTable table, long time) {
             for (int i = 0; i < table.batches; i++) {
-                long offset = firstSinceIn(table.at[i], time);
-                if (offset != NONE) {
-                    return offset;
+                if (Batch.greatestTimeOf(disk.row, table.at[i]) >= time) {
+                    long offset = firstSinceIn(table.at[i], time);
+                    if (offset != NONE) {
+                        return offset;
+                    }
                 }
             }
             return NONE;
@@ -1468,9 +1474,9 @@ public final class BatchBroker {
         }
 
         int hear(int group, int member, int told) {
-            int refusal = refusal(group, member, told);
-            if (refusal != 0) {
-                return refusal;
+            int refused = refusal(group, member, told);
+            if (refused != 0) {
+                return refused;
             }
             heard[group * EIGHT + member] = now;
             return (joined[group] >> member & 1) == 1 ? 0 : 1;

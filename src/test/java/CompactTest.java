@@ -225,7 +225,32 @@ public final class CompactTest {
         Expect.same("not by the times of what went", NONE, x.find(0, 1008));
     }
 
-    /** Keys 0 .. 7 in one-block segments of two batches each, as many as asked for; then an open one. */
+    private static void greatestTimes() {
+        BatchBroker x = new BatchBroker(1, 1, 64);
+        x.record(1, 1, 1, 0, 1, 0);
+        x.record(1, 2, 1, 0, 1, 9);
+        x.seal(-1, -1, -1, 0);
+        x.produce(0);
+        byte[] early = Model.recordBytes(-40, 0, bytes(4), null);
+        byte[] late = Model.recordBytes(0, 1, bytes(5), null);
+        Send.feed(x, Model.batchBytes(0, 1, 50, 50, -1, -1, -1, 2, Send.join(early, late)));
+        x.produce(0);
+        Send.block(x, 0, 0);
+        put(x, 2, 1, 1, 0);
+        put(x, 5, 1, 1, 0);
+        Expect.same("two go", 2, x.compact(0));
+        int[] greatest = {0, 10};
+        for (int i = 0; i < 2; i++) {
+            x.fetch(0, 2 * i, 0);
+            for (int k = 0; k < 8; k++) {
+                Expect.same("greatest time of batch " + i + ", byte " + k, k < 7 ? 0 : greatest[i], x.byteAt(35 + k));
+            }
+            Expect.same("first time", i == 0 ? 0 : 50, x.byteAt(34));
+            Expect.same("time", greatest[i], x.taken(0, 1));
+        }
+    }
+
+    /** Keys 0 .. 3 in one-block segments of two batches each, as many as asked for; then an open one. */
     private static BatchBroker pairs(int segments, int blocks) {
         BatchBroker x = new BatchBroker(1, 1, blocks);
         for (int i = 0; i < segments; i++) {
@@ -422,6 +447,7 @@ public final class CompactTest {
         tombs();
         knownStay();
         whatIsLeft();
+        greatestTimes();
         newSegments();
         exactRoom();
         fullDisk();

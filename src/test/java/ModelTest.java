@@ -38,6 +38,7 @@ public final class ModelTest {
         for (int i = 0; i < weights.length; i++) {
             weights[i] = pick(1, 1, 3, 9);
         }
+        weights[4] = pick(0, 1, 1, 3);
         keys = pick(2, 5, 20, 1000);
         oddness = pick(8, 40, 1000000);
     }
@@ -100,7 +101,7 @@ public final class ModelTest {
         String call = name + Arrays.toString(args);
         told.add(call + " -> " + want);
         boolean isNumber = !want.startsWith("t") && !want.equals("null");
-        String kind = name + " " + (!isNumber || want.startsWith("-") ? want : "a number");
+        String kind = name + " " + (!isNumber || want.matches("-[0-9]{1,2}") ? want : "a number");
         ANSWERS.merge(kind, 1, Integer::sum);
         if (!got.equals(want)) {
             failed = true;
@@ -139,6 +140,9 @@ public final class ModelTest {
 
     private void send() {
         int log = busyLog();
+        if (model.tape.length > 0 && !chance(6)) {
+            call("trim", model.tape.length);
+        }
         drafted();
         long producer = pick(-1, 0, 0, 1, 2, 3);
         Model.Log target = model.logs[Math.min(log, model.n)];
@@ -273,19 +277,19 @@ public final class ModelTest {
                 call("writes");
                 break;
             default:
-                long span = l.end - l.start + 2;
-                call("fetch", log, l.start - 1 + (long) (random.nextDouble() * (span + 1)),
+                long offset = l.start + (long) (random.nextDouble() * (l.end - l.start + 1));
+                call("fetch", log, chance(10) ? pick((int) l.start - 1, (int) l.end + 1) : offset,
                         pick(0, 100, 500, 2000, 32768));
                 lookAtFetched();
         }
     }
 
     private void lookAtFetched() {
-        for (int i = 0; i < 4; i++) {
-            call("taken", random.nextInt(model.takenRecs.size() + 1), random.nextInt(6));
-        }
         int length = model.fetched.length;
-        for (int i = 0; i < 4; i++) {
+        int looks = length == 0 ? 1 : 4;
+        for (int i = 0; i < looks; i++) {
+            call("taken", random.nextInt(model.takenRecs.size() + (chance(4) ? 1 : 0) + 1) - (chance(20) ? 0 : 1),
+                    random.nextInt(6));
             call("byteAt", random.nextInt((chance(2) ? Math.min(length, 61) : length) + 1));
         }
     }
@@ -294,13 +298,16 @@ public final class ModelTest {
 
     private void inGroups() {
         int group = chance(3) ? random.nextInt(8) : 0;
-        int member = random.nextInt(chance(3) ? 8 : 2);
         Model.Group g = model.groups[group];
+        List<Integer> members = new ArrayList<>(g.heard.keySet());
+        boolean known = !members.isEmpty() && !chance(4);
+        int member = known ? members.get(random.nextInt(members.size())) : random.nextInt(chance(3) ? 8 : 3);
         int generation = g.generation - (chance(6) ? 1 : 0);
         int log = random.nextInt(model.n);
-        switch (random.nextInt(9)) {
+        switch (random.nextInt(10)) {
             case 0:
             case 1:
+            case 9:
                 call("join", group, member);
                 break;
             case 2:
@@ -315,7 +322,7 @@ public final class ModelTest {
                 call("commit", group, member, generation, log, chance(5) ? end + pick(1, -1) : end);
                 break;
             case 6:
-                call("ticks", pick(1, 1, 5, 9, 10, 11, 19, 20, 21, 29, 30, 31, 200));
+                call("ticks", pick(1, 1, 1, 5, 9, 10, 11, 15, 19, 20, 21, 29, 30, 200));
                 break;
             case 7:
                 call("committed", group, log);
@@ -387,7 +394,21 @@ public final class ModelTest {
         }
     }
 
+    /** Leaves no block, or few, for others. */
+    private void crowd() {
+        int left = random.nextInt(4);
+        while (model.free() / model.segmentBlocks > left && calls < 200 && !failed) {
+            call("record", 3, 0, -1, 0, 300, 0);
+            call("seal", -1, -1, -1, 0);
+            call("produce", 0);
+            call("recover");
+        }
+    }
+
     private void run() {
+        if (chance(5)) {
+            crowd();
+        }
         while (calls < MOST_CALLS && !failed) {
             step();
         }

@@ -106,6 +106,7 @@ public final class TapeTest {
         recordBounds();
         recordBytes();
         recordLimits();
+        recordExactRooms();
     }
 
     private static void recordBounds() {
@@ -182,6 +183,33 @@ public final class TapeTest {
         Expect.state("no byte is left", () -> y.record(1, 0, -1, 0, -1, 0));
         Expect.same("sealed", 16061, y.seal(-1, -1, -1, 0));
         Expect.same("the draft is empty then", 1, y.record(1, 0, -1, 0, -1, 0));
+    }
+
+    private static void recordExactRooms() {
+        int[] laters = {0, 1, 20, 63, 64, 8100, 8150, 8192, 1000000};
+        for (int later : laters) {
+            recordExactRoom(100, later, 0);
+            recordExactRoom(100, later, 1);
+        }
+    }
+
+    /** So many records behind sixty others, which leave just enough room for them, or miss a byte. */
+    private static void recordExactRoom(int n, int later, int missing) {
+        int size = 0;
+        for (int i = 0; i < n; i++) {
+            size += Model.recordBytes(later + i, 60 + i, null, null).length;
+        }
+        BatchBroker x = new BatchBroker(1, 1, 32);
+        x.record(59, 0, -1, 0, 244, 0);
+        x.record(1, 0, -1, 0, 16000 - size - 59 * 253 + missing - 9, 0);
+        String name = n + " records, " + later + " later";
+        if (missing > 0) {
+            Expect.state(name + ": a byte too few", () -> x.record(n, 0, -1, 0, -1, later));
+            Expect.same(name + ": none came", 61, x.record(1, 0, -1, 0, -1, 0));
+        } else {
+            Expect.same(name + ": just enough", 60 + n, x.record(n, 0, -1, 0, -1, later));
+            Expect.same(name + ": 16000", 16061, x.seal(-1, -1, -1, 0));
+        }
     }
 
     private static void promise6Seal() {
@@ -409,6 +437,17 @@ public final class TapeTest {
         faultOf("a key of 200 bytes, a value of 9", 0, -1,
                 batch(5, 5, 1, Model.recordBytes(0, 0, new byte[200], new byte[9])));
         faultOf("of no bytes", 0, -1, batch(5, 5, 1, Model.recordBytes(0, 0, new byte[0], new byte[0])));
+        // what lies behind the tape in memory (zeros, or what was trimmed) is no part of a record
+        byte[] third = Model.recordBytes(0, 1, bytes(1, 2), bytes(0, 0, 0, 0));
+        for (int cut = 1; cut <= third.length; cut++) {
+            byte[] row = batch(5, 5, 2, good, Arrays.copyOf(third, third.length - cut));
+            faultOf("cut by " + cut, 4, 61 + good.length, row);
+            BatchBroker x = new BatchBroker(1, 1, 32);
+            Send.feed(x, Send.join(row, Arrays.copyOfRange(third, third.length - cut, third.length)));
+            x.trim(cut);
+            Expect.same("trimmed by " + cut, 4, x.fault(0));
+            Expect.same("trimmed, at", 61 + good.length, x.fault(1));
+        }
         byte[][] many = new byte[1000][];
         for (int i = 0; i < 1000; i++) {
             many[i] = Model.recordBytes(0, i, null, null);
@@ -422,7 +461,10 @@ public final class TapeTest {
             bytes(-1, -1, -1, -1, -1, -1, -1, -1, -1, 2), bytes(-1, -1, -1, -1, -1, -1, -1, -1, -1, 3),
             bytes(-1, -1, -1, -1, -1, -1, -1, -1, -1, 0), bytes(-1, -1, -1, -1, -1, -1, -1, -1, -1, 0x81, 0),
             bytes(0x80, 0x80, 0x80, 0x80, 0x80, 0x80, 0x80, 0x80, 0x80, 0x80, 0),
-            bytes(0x80, 0x80, 0x80, 0x80, 0x80, 0x80, 0x80, 0x80, 0x80, 2)};
+            bytes(0x80, 0x80, 0x80, 0x80, 0x80, 0x80, 0x80, 0x80, 0x80, 2),
+            bytes(0x80, 0x80, 0x80, 0x80, 0x80, 0x80, 0x80, 0x80, 0x80, 0x80),
+            bytes(0x80, 0x80, 0x80, 0x80, 0x80, 0x80, 0x80, 0x80, 0x80, 0x80, 1),
+            bytes(0x80, 0x80, 0x80, 0x80, 0x80, 0x80, 0x80, 0x80, 0x80, 0x81, 1)};
         for (byte[] form : forms) {
             String name = "varint " + Arrays.toString(form);
             recordFault(name + " as time",
