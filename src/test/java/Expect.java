@@ -6,15 +6,29 @@ final class Expect {
 
     private static int checks;
     private static int wrong;
+    private static String sentence = "";
 
     private Expect() {
+    }
+
+    /** What follows is about this sentence of the document, which is printed with what is wrong. */
+    static void sentence(String text) {
+        sentence = "[" + text + "] ";
     }
 
     static void same(String what, long want, long got) {
         checks++;
         if (got != want) {
             wrong++;
-            System.out.println(what + ": answered " + got + ", due is " + want);
+            System.out.println(sentence + what + ": answered " + got + ", due is " + want);
+        }
+    }
+
+    static void same(String what, String want, String got) {
+        checks++;
+        if (!got.equals(want)) {
+            wrong++;
+            System.out.println(sentence + what + ": answered\n" + got + "\ndue is\n" + want);
         }
     }
 
@@ -38,7 +52,7 @@ final class Expect {
             got = "threw " + e.getClass().getName();
         }
         wrong++;
-        System.out.println(what + ": " + got + ", due is " + type.getName());
+        System.out.println(sentence + what + ": " + got + ", due is " + type.getName());
     }
 
     static void end(String name) {

@@ -45,6 +45,20 @@ public final class FaceTest {
         return s.append(")").toString();
     }
 
+    /** The exceptions that the document declares for a method. */
+    private static String declared(String name) {
+        List<String> none = List.of("time", "recover", "isDown", "writes");
+        List<String> arguments = List.of("trim", "spoil", "fault", "byteAt", "taken");
+        List<String> states = List.of("feed", "producer", "free", "audit");
+        if (none.contains(name)) {
+            return "[]";
+        }
+        String argument = "class java.lang.IllegalArgumentException";
+        String state = "class java.lang.IllegalStateException";
+        return arguments.contains(name) ? "[" + argument + "]"
+                : states.contains(name) ? "[" + state + "]" : "[" + argument + ", " + state + "]";
+    }
+
     private static void members() throws IllegalAccessException {
         Class<?> type = BatchBroker.class;
         holds("public and final", Modifier.isPublic(type.getModifiers()) && Modifier.isFinal(type.getModifiers()));
@@ -53,6 +67,7 @@ public final class FaceTest {
             if (Modifier.isPublic(m.getModifiers())) {
                 holds("a method of the face: " + signature(m), due.remove(signature(m)));
                 holds("not static: " + m, !Modifier.isStatic(m.getModifiers()));
+                Expect.same("exceptions of " + m, declared(m.getName()), Arrays.toString(m.getExceptionTypes()));
             } else {
                 holds("private: " + m, Modifier.isPrivate(m.getModifiers()));
                 holds("another name than the face has: " + m, !METHOD_NAMES.contains(m.getName()));

@@ -50,6 +50,32 @@ final class Send {
         return x.produce(log);
     }
 
+    /** Puts a batch of exactly so many bytes (68 .. 16061, not 126) behind the tape, without producer and keys. */
+    static void exact(BatchBroker x, int size) {
+        int rest = size - 61;
+        int number = 0;
+        while (rest > 309) {
+            int valueBytes = rest > 409 ? 300 : 200;
+            x.record(1, 0, -1, 0, valueBytes, 0);
+            rest -= valueBytes + 9;
+            number++;
+        }
+        // lengths of two bytes come in at once, so that a record of 72 bytes needs a time of two bytes
+        int later = rest == 72 ? 64 : 0;
+        int valueBytes = 0;
+        while (Model.recordBytes(later, number, null, new byte[valueBytes]).length < rest) {
+            valueBytes++;
+        }
+        x.record(1, 0, -1, 0, valueBytes, later);
+        x.seal(-1, -1, -1, 0);
+    }
+
+    /** Sends a batch of exactly so many bytes. */
+    static long exact(BatchBroker x, int log, int size) {
+        exact(x, size);
+        return x.produce(log);
+    }
+
     /** All bytes of the tape, a call each. */
     static byte[] tape(BatchBroker x) {
         byte[] row = new byte[x.trim(0)];
