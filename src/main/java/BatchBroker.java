@@ -31,6 +31,8 @@ public final class BatchBroker {
     private static final int CRASH_LIMIT = 1000;
     private static final long STAMP_LIMIT = 1L << 50;
     private static final long SEAL_LIMIT = 1L << 49;
+    // Sequences are counted modulo 2^31: the lowest 31 bits of a sum are what is left of it.
+    private static final int SEQUENCE_BITS = 0x7FFFFFFF;
 
     private final int logCount;
     private final byte[] tape = new byte[TAPE_LIMIT];
@@ -475,7 +477,7 @@ public final class BatchBroker {
         }
 
         static int nextSequenceOf(byte[] row, int at) {
-            return sequenceOf(row, at) + lastOf(row, at) + 1 & Integer.MAX_VALUE;
+            return sequenceOf(row, at) + lastOf(row, at) + 1 & SEQUENCE_BITS;
         }
 
         static boolean hasTrueChecksum(byte[] row, int at, int size) {
@@ -1289,6 +1291,7 @@ public final class BatchBroker {
             return size;
         }
 
+        // The batches lay in the same order before and none has grown: they fill no more segments than they did.
         private void keepStaged(int size) {
             if (segments == 0 || bytes[segments - 1] + size > logs.segmentBlocks * BLOCK) {
                 bytes[segments] = 0;

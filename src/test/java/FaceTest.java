@@ -9,6 +9,7 @@ import java.util.Arrays;
 import java.util.List;
 import java.util.Set;
 import java.util.TreeSet;
+import java.util.regex.Matcher;
 import java.util.regex.Pattern;
 
 /** The public face, member by member, and those rules of LANGUAGE.md that can be seen from outside. */
@@ -24,6 +25,11 @@ public final class FaceTest {
     private static final Set<String> METHOD_NAMES = names();
     private static final String[] CONSTANTS = {"NONE", "FULL", "CUT", "FAULT", "LARGE", "FENCED", "GAP", "STRANGER",
         "OLD", "MIXED", "FOREIGN", "OUTSIDE"};
+
+    /** What LANGUAGE.md's rule 4 lists, as far as a broker could use it. */
+    private static final Set<String> LIBRARY = Set.of("Math.max", "Math.min", "Math.abs", "Math.floorMod",
+        "Math.floorDiv", "Integer.bitCount", "Integer.compare", "Long.bitCount", "Long.compare", "System.arraycopy",
+        "Arrays.copyOf", "Arrays.copyOfRange", "Arrays.fill");
 
     private static Set<String> names() {
         Set<String> names = new TreeSet<>();
@@ -101,9 +107,62 @@ public final class FaceTest {
         }
     }
 
-    private static void source() throws IOException {
+    private static String code() throws IOException {
         String text = Files.readString(Path.of("src/main/java/BatchBroker.java"));
-        String code = text.replaceAll("(?s)/\\*.*?\\*/", "").replaceAll("//[^\n]*", "").replaceAll("\"[^\"]*\"", "");
+        return text.replaceAll("(?s)/\\*.*?\\*/", "").replaceAll("//[^\n]*", "").replaceAll("\"[^\"]*\"", "");
+    }
+
+    private static Set<String> ownClasses() {
+        Set<String> own = new TreeSet<>();
+        for (Class<?> inner : BatchBroker.class.getDeclaredClasses()) {
+            own.add(inner.getSimpleName());
+        }
+        return own;
+    }
+
+    /** Rules 4, 6 and 12: of the library only what is listed there, no objects but exceptions made by calls. */
+    private static void library(String code) {
+        Set<String> own = ownClasses();
+        Matcher use = Pattern.compile("\\b([A-Z]\\w*)\\.(\\w+)(\\s*\\()?").matcher(code);
+        while (use.find()) {
+            boolean isFunction = use.group(3) != null;
+            holds("a listed function: " + use.group(), own.contains(use.group(1))
+                    || isFunction && LIBRARY.contains(use.group(1) + "." + use.group(2)));
+        }
+        Matcher thrown = Pattern.compile("\\bthrow\\s+(\\w+\\s+\\w+)").matcher(code);
+        while (thrown.find()) {
+            holds("an exception of the document: " + thrown.group(),
+                    thrown.group(1).matches("new Illegal(Argument|State)Exception"));
+        }
+        holds("no try", !Pattern.compile("\\btry\\b").matcher(code).find());
+    }
+
+    /** Rule 11: methods of some sixty lines, some twelve classes, some twenty fields in each. */
+    private static void sizes(String code) {
+        String[] lines = code.split("\n");
+        int methods = 0;
+        for (int i = 0; i < lines.length; i++) {
+            Matcher begin = Pattern.compile("(    |        )(?! |class|for|if|while|switch)[^=;]*\\([^=;]*").matcher(lines[i]);
+            if (begin.matches()) {
+                methods++;
+                int end = Arrays.asList(lines).subList(i, lines.length).indexOf(begin.group(1) + "}");
+                holds("at most sixty lines: " + lines[i], end >= 0 && end <= 60);
+            }
+        }
+        holds("methods were found: " + methods, methods >= METHODS.length);
+        holds("at most twelve classes", BatchBroker.class.getDeclaredClasses().length + 1 <= 12);
+        fieldCount(BatchBroker.class);
+        for (Class<?> inner : BatchBroker.class.getDeclaredClasses()) {
+            fieldCount(inner);
+        }
+    }
+
+    private static void fieldCount(Class<?> type) {
+        long count = Arrays.stream(type.getDeclaredFields()).filter(f -> !Modifier.isStatic(f.getModifiers())).count();
+        holds("at most twenty fields in " + type, count <= 20);
+    }
+
+    private static void source(String code) {
         String[] never = {"::", "\\bfinally\\b", "\\bsynchronized\\b", "\\bassert\\b", "\\bstatic\\s*\\{", "Exact\\(",
             "\\bSystem\\.(?!arraycopy)", "\\bpackage\\b", "\\bprotected\\b", "\\bimport\\s+(?!java\\.util\\.)"};
         for (String word : never) {
@@ -155,7 +214,9 @@ public final class FaceTest {
         for (Class<?> inner : BatchBroker.class.getDeclaredClasses()) {
             staticFields(inner);
         }
-        source();
+        source(code());
+        library(code());
+        sizes(code());
         memory();
         Expect.end("FaceTest");
     }
