@@ -26,12 +26,17 @@ public final class ModelTest {
     private final int[] weights = new int[6];
     private final int keys;
     private final int oddness;
+    /** Whether the disk is nearly full from the first on; whether the run is about groups then. */
+    private final boolean crowded;
+    private final boolean groupsInCrowd;
 
     private ModelTest(long seed) {
         random = new Random(seed);
         int logs = pick(1, 1, 2, 2, 3, 8, 0, 9);
-        int segment = pick(1, 1, 1, 2, 3, 5, 16, 0, 17);
-        int blocks = pick(32, 32, 40, 64, 100, 256, 31, 257);
+        crowded = chance(5);
+        groupsInCrowd = crowded && chance(2);
+        int segment = groupsInCrowd ? 1 : pick(1, 1, 1, 2, 3, 5, 16, 0, 17);
+        int blocks = groupsInCrowd ? 32 : pick(32, 32, 40, 64, 100, 256, 31, 257);
         broker = new BatchBroker(logs, segment, blocks);
         model = new Model(logs, segment, blocks);
         told.add("new BatchBroker(" + logs + ", " + segment + ", " + blocks + ")");
@@ -39,6 +44,10 @@ public final class ModelTest {
             weights[i] = pick(1, 1, 3, 9);
         }
         weights[4] = pick(0, 1, 1, 3);
+        if (groupsInCrowd) {
+            Arrays.fill(weights, 1);
+            weights[3] = pick(20, 60);
+        }
         keys = pick(2, 5, 20, 1000);
         oddness = pick(8, 40, 1000000);
     }
@@ -406,7 +415,7 @@ public final class ModelTest {
     }
 
     private void run() {
-        if (chance(5)) {
+        if (crowded) {
             crowd();
         }
         while (calls < MOST_CALLS && !failed) {
